@@ -96,7 +96,7 @@ public final class ModelTest {
 
     private String textToFeed() {
         String text = "dues " + expression(random.nextInt(4)) + ";offs "
-                + expression(random.nextInt(3)) + " ;\nextras " + expression(random.nextInt(3)) + ";";
+                + expression(random.nextInt(2)) + " ;\nextras " + expression(random.nextInt(2)) + ";";
         if (random.nextInt(3) == 0) {
             int at = random.nextInt(text.length());
             String other = PIECES_OF_TEXT[random.nextInt(PIECES_OF_TEXT.length)];
@@ -113,7 +113,10 @@ public final class ModelTest {
             due("feed(" + c + ")", x.feed(c), m.feed(c));
         }
         due("text() of " + text, x.text(), m.text());
-        int t = upTo(m.texts.size() - 1);
+        force(upTo(m.texts.size() - 1));
+    }
+
+    private void force(int t) {
         due("force(" + t + ")", x.force(t), m.force(t));
     }
 
@@ -131,8 +134,10 @@ public final class ModelTest {
             case 2, 3, 4, 5 -> stepLook();
             case 6, 7, 8 -> stepSet();
             case 9 -> {
-                if (random.nextInt(4) == 0) {
+                if (random.nextInt(3) == 0) {
                     feedText();
+                } else {
+                    force(random.nextInt(m.texts.size()));
                 }
             }
             case 10, 11, 12 -> stepOwes();
@@ -200,7 +205,7 @@ public final class ModelTest {
         due("cheapest(" + one + ", " + light + ", " + what + ")",
                 x.cheapest(one, light, what), m.cheapest(one, light, what));
         due("leave(" + one + ", " + what + ")", x.leave(one, what), m.leave(one, what));
-        int k = random.nextInt(8) == 0 ? upTo(99999) : upTo(1000);
+        int k = random.nextInt(8) == 0 ? upTo(99999) : upTo(random.nextBoolean() ? 1000 : 60);
         due("farm(" + one + ", " + k + ")", x.farm(one, k), m.farm(one, k));
         int mile = upTo(99);
         int asked = upTo(2);
@@ -245,10 +250,23 @@ public final class ModelTest {
         }
     }
 
+    private void fillWithLights(int sheet, int sort) {
+        int size = random.nextInt(21);
+        due("sheet(" + sheet + ", " + sort + ", " + size + ")",
+                x.sheet(sheet, sort, size), m.sheet(sheet, sort, size));
+        int shift = random.nextInt(2);
+        for (int i = 0; i < size; i++) {
+            int part = (i + shift) % 3;
+            int v = part == 0 ? upTo(5) : part == 1 ? upTo(9) : 1 + upTo(200);
+            due("cell(" + sheet + ", " + i + ", " + v + ")",
+                    x.cell(sheet, i, v), m.cell(sheet, i, v));
+        }
+    }
+
     private void stepHost() {
         int sheet = upTo(3);
         int sort = random.nextInt(6) == 0 ? -1 : upTo(2);
-        switch (random.nextInt(8)) {
+        switch (random.nextInt(9)) {
             case 0 -> {
                 int n = random.nextBoolean() ? upTo(40) : m.now.lights.size();
                 due("sheet(" + sheet + ", " + sort + ", " + n + ")",
@@ -269,7 +287,8 @@ public final class ModelTest {
                         x.copy(sheet, i, other, j, n), m.copy(sheet, i, other, j, n));
             }
             case 6 -> {
-                int from = upTo(20);
+                fillWithLights(sheet, sort);
+                int from = upTo(random.nextBoolean() ? 1 : 20);
                 int n = upTo(6);
                 due("lights(" + sheet + ", " + sort + ", " + from + ", " + n + ")",
                         x.lights(sheet, sort, from, n), m.lights(sheet, sort, from, n));
