@@ -101,9 +101,6 @@ public final class LightYearsAreOwed {
                 || !between(years, 1, MOST_YEARS)) {
             return BAD;
         }
-        if (sky.lightCount >= LIGHTS) {
-            return FULL;
-        }
         return sky.addLight(kind, number, years);
     }
 
@@ -720,6 +717,7 @@ public final class LightYearsAreOwed {
             System.arraycopy(other.many, 0, many, 0, SORTS);
         }
 
+        /** The new light's number; FULL. */
         int addLight(int kind, int number, int ofYears) {
             int light = lightCount;
             if (light < 0 || light >= LIGHTS) {

@@ -216,6 +216,14 @@ public final class BestTest {
         x.set(3, 4, 40);
         walk(x, 41, 1, new int[] {1, 0, 5});
         walk(x, 41, 6, new int[] {1, 1, 3});
+        for (int i = 0; i < 5; i++) {
+            x.set(3, i, 0);
+        }
+        walk(x, 7, 10, new int[] {7, 1, 3});
+        for (int i = 0; i < 5; i++) {
+            x.set(3, i, 99);
+        }
+        walk(x, 7, 10, new int[] {92, 1, 3});
     }
 
     private static void promise16Bad() {

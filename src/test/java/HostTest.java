@@ -33,8 +33,10 @@ public final class HostTest {
             CHECK.due("24: of sort " + sort, x.sheet(sort, sort, 40), 1);
             CHECK.due("24: its last place", x.cell(sort, 39, 5), 1);
             CHECK.due("24: not more", x.cell(sort, 40, 5), -12);
+            x.cell(sort, 0, 5);
             CHECK.due("24: anew", x.sheet(sort, sort, 40), 1);
             item(x, sort, sort, 39, 0, "24: all 0");
+            item(x, sort, sort, 0, 0, "24: from the first on");
         }
         CHECK.due("24: none of them", x.sheet(0, 2, 0), 1);
         CHECK.due("24: no place", x.cell(0, 0, 0), -12);

@@ -118,10 +118,14 @@ public final class LightsTest {
         CHECK.due("4: nothing changed", x.look(4, 1, 0), 1);
         x.image();
         x.light(0, 0, 3);
-        x.look(2, 2, 7);
+        for (int one = 0; one < 5; one++) {
+            x.look(one, 2, 7);
+        }
         x.back();
         x.light(0, 0, 4);
-        CHECK.due("4: none as a light comes", x.look(2, 2, 0), 0);
+        for (int one = 0; one < 5; one++) {
+            CHECK.due("4: none as a light comes, of " + one, x.look(one, 2, 0), 0);
+        }
     }
 
     private static void promise5Told() {

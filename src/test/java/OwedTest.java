@@ -94,6 +94,14 @@ public final class OwedTest {
         CHECK.due("10: nothing at first", x.all(0), 0);
         CHECK.due("10: of like ones the first", x.all(1), 0);
         CHECK.due("10: no pieces", x.all(2), 0);
+        for (int one = 0; one < 5; one++) {
+            LightYearsAreOwed y = new LightYearsAreOwed();
+            y.light(0, 0, 10);
+            y.look(one, 0, 2);
+            CHECK.due("10: looker " + one + " alone", y.all(1), one);
+            y.look(0, 0, 1);
+            CHECK.due("10: as much as looker 0", y.all(1), 0);
+        }
         x.light(0, 0, 10);
         x.light(0, 0, 7);
         x.look(3, 0, 1);

@@ -9,6 +9,7 @@ public final class TextsTest {
         promise7Faults();
         promise7Open();
         promise7Values();
+        promise7AfterFaults();
         promise7Names();
         promise7Bounds();
         promise8Force();
@@ -90,7 +91,11 @@ public final class TextsTest {
         fault("dues 1;offs 2;extras 3; dues", 24);
         fault("dues 1;offs 2;extras 3; @", 24);
         fault("dues 1;offs 2;extras", 20);
+        fault("dues 1;offs 2;extras 3; 7", 24);
+        fault("dues 1;offs 2;extras 3; years", 24);
         fault("dues yearsx;", 5);
+        fault("dues yearsz;", 5);
+        fault("dues yearsa;", 5);
         fault("dues year;", 5);
         fault("dues Years;", 5);
         fault("dues yeArs;", 5);
@@ -215,6 +220,19 @@ public final class TextsTest {
         worth("0or 0and 0<0+0*(0or 0and 0<0+0*(0or 0and 0<0+0*(0or 0and 0<0+1*(0or 1and 0<0+1*(9)))))", 0);
         worth("1or 1and 1<1+1*(1or 1and 1<1+1*(1or 1and 1<1+1*(1or 1and 1<1+1*(1or 1and 1<1+1*(9)))))", 1);
         worth("0or 1and 1<1+1*(0or 1and 1<1+1*(0or 1and 1<1+1*(0or 1and 1<1+1*(0or 1and 1<1+1*(9)))))", 1);
+    }
+
+    private static void promise7AfterFaults() {
+        LightYearsAreOwed x = new LightYearsAreOwed();
+        String tooLong = "dues 1+1+1+1+1+1+1+1+1+1+1+1+1+1+1+1+1+1+1+1+1+1+1+1+1+1+1+1+1+1+1+1+1+1+1+";
+        for (int i = 0; i < 5; i++) {
+            CHECK.due("7: ends too early", Told.text(x, tooLong), -100 - tooLong.length());
+        }
+        CHECK.due("7: a text after faults", Told.text(x, "dues 3+4;offs 1+1;extras 5;"), 1);
+        x.light(0, 0, 1);
+        x.look(0, 0, 7);
+        x.force(1);
+        CHECK.due("7: nothing of them is left", x.owes(0, 0, 0), 21 + 5 - 2);
     }
 
     private static void promise7Names() {

@@ -110,6 +110,15 @@ public final class ToldTest {
         CHECK.due("17: no kind", x.tells(0, 0, 10), 0);
         Told.row(x, 0, 2, 1);
         CHECK.due("17: a lamp", x.tells(0, 0, 10), 32);
+        CHECK.due("17: of one year", x.tells(0, 0, 30), 1);
+        CHECK.due("17: 1 the least", x.tells(0, 0, 40), 1);
+        LightYearsAreOwed y = new LightYearsAreOwed();
+        y.light(5, 0, 7);
+        Told.row(y, 0, 2, 0);
+        CHECK.due("17: not seen: all kinds", y.tells(0, 0, 10), 63);
+        CHECK.due("17: not seen: all numbers", y.tells(0, 0, 20), 1023);
+        CHECK.due("17: not seen: all years", y.tells(0, 0, 30), 999);
+        CHECK.due("17: not seen: from 1 on", y.tells(0, 0, 40), 1);
         x.light(3, 0, 1);
         x.look(1, 1, 15);
         Told.row(x, 0, 2, 0, 8 + 7);
