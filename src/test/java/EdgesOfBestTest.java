@@ -35,15 +35,9 @@ public final class EdgesOfBestTest {
         CHECK.end();
     }
 
-    private static LightYearsAreOwed by(String dues, String offs, String extras) {
-        LightYearsAreOwed x = new LightYearsAreOwed();
-        x.force(Told.text(x, "dues " + dues + ";offs " + offs + ";extras " + extras + ";"));
-        return x;
-    }
-
     /** Six lights; night t comes to t + 1. */
     private static LightYearsAreOwed sixLights() {
-        LightYearsAreOwed x = by("night+1", "0", "0");
+        LightYearsAreOwed x = Told.by("night+1", "0", "0");
         for (int i = 0; i < 6; i++) {
             x.light(0, 0, 1);
         }
@@ -95,7 +89,7 @@ public final class EdgesOfBestTest {
     }
 
     private static void cheapestOfLikeOnesTheFirst() {
-        LightYearsAreOwed x = by("50-20*(night=3)-20*(night=11)", "0", "0");
+        LightYearsAreOwed x = Told.by("50-20*(night=3)-20*(night=11)", "0", "0");
         x.light(0, 0, 1);
         CHECK.due("13: of 3 and 11", x.cheapest(0, 0, 0), 3);
         x.set(0, 0, 8);
@@ -107,11 +101,11 @@ public final class EdgesOfBestTest {
 
     /** The least there is, 0, is none of NONE. */
     private static void cheapestOfNothing() {
-        LightYearsAreOwed x = by("0", "0", "0");
+        LightYearsAreOwed x = Told.by("0", "0", "0");
         x.light(0, 0, 1);
         CHECK.due("13: nothing by any night", x.cheapest(0, 0, 0), 0);
         CHECK.due("13: nothing then", x.cheapest(0, 0, 1), 0);
-        LightYearsAreOwed y = by("5*(night<11)", "0", "0");
+        LightYearsAreOwed y = Told.by("5*(night<11)", "0", "0");
         y.light(0, 0, 1);
         CHECK.due("13: nothing by the last night", y.cheapest(0, 0, 0), 11);
         CHECK.due("13: nothing then, too", y.cheapest(0, 0, 1), 0);
@@ -119,7 +113,7 @@ public final class EdgesOfBestTest {
 
     /** The third night brings extras, a comet's last one takes all that is due. */
     private static void cheapestCountsTheNightToo() {
-        LightYearsAreOwed x = by("10", "0", "7");
+        LightYearsAreOwed x = Told.by("10", "0", "7");
         x.light(0, 0, 1);
         x.light(3, 3, 1);
         x.look(0, 0, 3);
@@ -133,7 +127,7 @@ public final class EdgesOfBestTest {
     }
 
     private static void cheapestWithoutPaid() {
-        LightYearsAreOwed x = by("10", "0", "0");
+        LightYearsAreOwed x = Told.by("10", "0", "0");
         x.light(0, 0, 1);
         x.look(0, 0, 1);
         x.set(5, 2, 1);
@@ -168,14 +162,14 @@ public final class EdgesOfBestTest {
 
     /** "if less than now": as much as now is none, and a light can even make all the others less. */
     private static void leaveIfLess() {
-        LightYearsAreOwed x = by("10", "10*lights", "0");
+        LightYearsAreOwed x = Told.by("10", "10*lights", "0");
         x.light(0, 0, 1);
         x.light(0, 0, 1);
         x.look(0, 0, 1);
         x.look(0, 1, 1);
         CHECK.due("14: nothing now, nothing then", x.leave(0, 0), NONE);
         CHECK.due("14: as now, nothing", x.leave(0, 1), 0);
-        LightYearsAreOwed y = by("20", "10*(lights-1)", "0");
+        LightYearsAreOwed y = Told.by("20", "10*(lights-1)", "0");
         y.light(0, 0, 1);
         y.light(0, 0, 1);
         y.look(0, 0, 1);
@@ -187,7 +181,7 @@ public final class EdgesOfBestTest {
         CHECK.due("14: 20 then", y.leave(0, 1), 20);
         y.look(0, 0, 0);
         y.look(0, 1, 0);
-        LightYearsAreOwed z = by("20", "19*(lights-1)", "0");
+        LightYearsAreOwed z = Told.by("20", "19*(lights-1)", "0");
         z.light(0, 0, 1);
         z.light(0, 0, 1);
         z.look(0, 0, 1);
@@ -219,7 +213,7 @@ public final class EdgesOfBestTest {
     }
 
     private static void leaveWithoutPaid() {
-        LightYearsAreOwed x = by("10", "0", "0");
+        LightYearsAreOwed x = Told.by("10", "0", "0");
         x.light(0, 0, 1);
         x.light(5, 0, 1);
         x.look(0, 0, 1);
@@ -271,7 +265,7 @@ public final class EdgesOfBestTest {
 
     /** "what one LOOKED at up to it, it, too, alone": extras come by the third night's own. */
     private static void farmUpToIt() {
-        LightYearsAreOwed x = by("10", "0", "50");
+        LightYearsAreOwed x = Told.by("10", "0", "50");
         x.light(0, 0, 1);
         x.look(0, 0, 2 + 16 + 64 + 1024);
         CHECK.due("15: two nights", x.farm(0, 20), 4);
@@ -283,7 +277,7 @@ public final class EdgesOfBestTest {
     }
 
     private static void farmComesToLessLater() {
-        LightYearsAreOwed x = by("10", "0", "0");
+        LightYearsAreOwed x = Told.by("10", "0", "0");
         x.light(3, 3, 1);
         x.look(0, 0, 1 + 2 + 4 + 8);
         CHECK.due("15: 20 by the first night", x.farm(0, 20), 0);
@@ -293,7 +287,7 @@ public final class EdgesOfBestTest {
     }
 
     private static void farmWithoutPaid() {
-        LightYearsAreOwed x = by("10", "0", "0");
+        LightYearsAreOwed x = Told.by("10", "0", "0");
         x.light(0, 0, 1);
         x.look(0, 0, 2 + 8);
         x.set(5, 2, 2);
@@ -305,7 +299,7 @@ public final class EdgesOfBestTest {
 
     /** Lookers live at these miles and owe so much each. */
     private static LightYearsAreOwed living(int[] miles, int[] owing) {
-        LightYearsAreOwed x = by("years", "0", "0");
+        LightYearsAreOwed x = Told.by("years", "0", "0");
         for (int i = 0; i < 5; i++) {
             x.set(3, i, miles[i]);
             int light = x.light(0, 0, Math.max(owing[i], 1));

@@ -115,6 +115,13 @@ public final class EdgesOfLightsTest {
                 least, least, most, most, was);
     }
 
+    /** As takes(), of 0 up to the last of those that have one. */
+    private static void takesOf(String name, int what, int last, int least, int most, int was) {
+        takes(name, what, 0, least, most, was);
+        takes(name, what, last, least, most, was);
+        EDGE.bounds("2: " + name + " of", v -> withLights(6).set(what, v, 5), 0, was, last, was, BAD);
+    }
+
     private static void setWhat() {
         EDGE.bounds("2: what", v -> withLights(6).set(v, 0, 1), 0, 77, 5, 6, BAD);
         EDGE.refused("2: what that told() takes alone", v -> withLights(6).set(v, 0, 1), BAD,
@@ -134,28 +141,23 @@ public final class EdgesOfLightsTest {
     }
 
     private static void setNumber() {
-        takes("number", 1, 5, 0, 9, 3);
-        EDGE.bounds("2: number of", v -> withLights(6).set(1, v, 5), 0, 3, 5, 3, BAD);
+        takesOf("number", 1, 5, 0, 9, 3);
     }
 
     private static void setYears() {
-        takes("years", 2, 5, 1, 999, 40);
-        EDGE.bounds("2: years of", v -> withLights(6).set(2, v, 5), 0, 40, 5, 40, BAD);
+        takesOf("years", 2, 5, 1, 999, 40);
     }
 
     private static void setMile() {
-        takes("mile", 3, 4, 0, 99, 8);
-        EDGE.bounds("2: mile of", v -> withLights(6).set(3, v, 5), 0, 8, 4, 8, BAD);
+        takesOf("mile", 3, 4, 0, 99, 8);
     }
 
     private static void setBright() {
-        takes("bright", 4, 3, 1, 99, 7);
-        EDGE.bounds("2: bright of", v -> withLights(6).set(4, v, 5), 0, 7, 3, 7, BAD);
+        takesOf("bright", 4, 3, 1, 99, 7);
     }
 
     private static void setMany() {
-        takes("many", 5, 3, 0, 20, 6);
-        EDGE.bounds("2: many of", v -> withLights(6).set(5, v, 5), 0, 6, 3, 6, BAD);
+        takesOf("many", 5, 3, 0, 20, 6);
     }
 
     private static void setOfAnyLightThatCame() {

@@ -36,12 +36,6 @@ public final class EdgesOfOwedTest {
         CHECK.end();
     }
 
-    private static LightYearsAreOwed by(String dues, String offs, String extras) {
-        LightYearsAreOwed x = new LightYearsAreOwed();
-        x.force(Told.text(x, "dues " + dues + ";offs " + offs + ";extras " + extras + ";"));
-        return x;
-    }
-
     /** What looker 0 owes for one light in the first k nights. */
     private static int owed(LightYearsAreOwed x, int kind, int number, int years, int k) {
         int light = x.light(kind, number, years);
@@ -68,7 +62,7 @@ public final class EdgesOfOwedTest {
         EDGE.bounds("9: what, of all and how many", v -> x.owes(2, 5, v), 0, 3, 1, 3, BAD);
         EDGE.bounds("9: what, of a night", v -> x.owes(2, 5, v), 10, 1, 21, 1, BAD);
         for (int n = 1; n < 6; n++) {
-            LightYearsAreOwed y = by("7", "0", "0");
+            LightYearsAreOwed y = Told.by("7", "0", "0");
             for (int i = 0; i < n; i++) {
                 y.light(0, 0, 1);
             }
@@ -80,7 +74,7 @@ public final class EdgesOfOwedTest {
     /** "no NIGHT: 0", whatever is extra. */
     private static void noNight() {
         for (int kind = 0; kind < 6; kind++) {
-            LightYearsAreOwed x = by("99", "0", "99");
+            LightYearsAreOwed x = Told.by("99", "0", "99");
             CHECK.due("9: no night, kind " + kind, owed(x, kind, 0, 999, 0), 0);
             CHECK.due("9: none counts", x.owes(0, 0, 1), 0);
             CHECK.due("9: one night is some", owed(x, kind, 9, 999, 1) > 0 ? 1 : 0, 1);
@@ -90,7 +84,7 @@ public final class EdgesOfOwedTest {
     /** "A NIGHT COUNTS, if it has no CLOUD": each of the twelve. */
     private static void nightsUnderClouds() {
         for (int t = 0; t < 12; t++) {
-            LightYearsAreOwed x = by("1+night", "0", "0");
+            LightYearsAreOwed x = Told.by("1+night", "0", "0");
             CHECK.due("9: no cloud", owed(x, 0, 0, 1, 12), 78);
             x.set(0, 0, 1 << t);
             CHECK.due("9: a cloud in night " + t, x.owes(0, 0, 0), 78 - t - 1);
@@ -107,7 +101,7 @@ public final class EdgesOfOwedTest {
         int[] due = {10, 20, 5, 20, 7, 1};
         int[] extra = {6, 9, 6, 9, 12, 0};
         for (int kind = 0; kind < 6; kind++) {
-            LightYearsAreOwed x = by("10", "0", "6");
+            LightYearsAreOwed x = Told.by("10", "0", "6");
             int number = kind == COMET ? 9 : 0;
             CHECK.due("9: two nights, kind " + kind, owed(x, kind, number, 299, 2), 2 * due[kind]);
             CHECK.due("9: three nights, kind " + kind, owed(x, kind, number, 299, 3),
@@ -115,7 +109,7 @@ public final class EdgesOfOwedTest {
             x.set(0, 0, 4);
             CHECK.due("9: three, one under a cloud, kind " + kind, x.owes(0, 1, 0), 2 * due[kind]);
         }
-        LightYearsAreOwed y = by("0", "0", "99");
+        LightYearsAreOwed y = Told.by("0", "0", "99");
         CHECK.due("9: a twin's extra in 12 nights", owed(y, TWIN, 0, 1, 12), 99 + 12);
         CHECK.due("9: a comet's extra in 12 nights", owed(y, COMET, 0, 1, 12), 99 + 12);
         CHECK.due("9: a giant's extra in 12 nights", owed(y, GIANT, 0, 1, 12), 198);
@@ -125,7 +119,7 @@ public final class EdgesOfOwedTest {
     /** "0, if k is NUMBER or more, else as a TWIN". */
     private static void cometByItsNumber() {
         for (int number = 0; number < 10; number++) {
-            LightYearsAreOwed x = by("30", "0", "0");
+            LightYearsAreOwed x = Told.by("30", "0", "0");
             x.light(COMET, number, 1);
             for (int k = 0; k <= 12; k++) {
                 x.look(3, 0, (1 << k) - 1);
@@ -142,7 +136,7 @@ public final class EdgesOfOwedTest {
         int[] dues = {0, 1, 2, 3, 97, 98, 99, 100};
         int[] half = {0, 0, 1, 1, 48, 49, 49, 49};
         for (int i = 0; i < dues.length; i++) {
-            LightYearsAreOwed x = by("" + dues[i], "0", "0");
+            LightYearsAreOwed x = Told.by("" + dues[i], "0", "0");
             x.light(RED, 0, 1);
             x.light(GIANT, 0, 99);
             CHECK.due("9: a red's half of " + dues[i], x.owes(0, 0, 10), half[i]);
@@ -153,7 +147,7 @@ public final class EdgesOfOwedTest {
     private static void aHundredYears() {
         int[] years = {1, 99, 100, 101, 199, 200, 899, 900, 998, 999};
         int[] more = {0, 0, 1, 1, 1, 2, 8, 9, 9, 9};
-        LightYearsAreOwed x = by("20", "0", "0");
+        LightYearsAreOwed x = Told.by("20", "0", "0");
         x.light(GIANT, 0, 1);
         for (int i = 0; i < years.length; i++) {
             x.set(2, 0, years[i]);
@@ -167,7 +161,7 @@ public final class EdgesOfOwedTest {
         int[] due = {99, 198, 49, 198, 49, 1};
         for (int kind = 0; kind < 6; kind++) {
             for (int i = 0; i < 2; i++) {
-                LightYearsAreOwed x = by("99", "40", "0");
+                LightYearsAreOwed x = Told.by("99", "40", "0");
                 int all = kind == COMET && i == 0 ? 0 : due[kind];
                 CHECK.due("9: off of kind " + kind + ", number " + 9 * i,
                         owed(x, kind, 9 * i, 1, 1), all - (all == 0 ? 0 : off[kind][i]));
@@ -176,12 +170,12 @@ public final class EdgesOfOwedTest {
     }
 
     private static void owesNoLessThanNothing() {
-        CHECK.due("9: one more than is let off", owed(by("8", "7", "0"), 0, 0, 1, 1), 1);
-        CHECK.due("9: as much as is let off", owed(by("7", "7", "0"), 0, 0, 1, 1), 0);
-        CHECK.due("9: one less than is let off", owed(by("6", "7", "0"), 0, 0, 1, 1), 0);
-        CHECK.due("9: far less", owed(by("0", "99", "0"), RED, 9, 1, 1), 0);
-        CHECK.due("9: extras are ahead of what is let off", owed(by("1", "9", "8"), 0, 0, 1, 3), 2);
-        LightYearsAreOwed x = by("5*number", "7", "0");
+        CHECK.due("9: one more than is let off", owed(Told.by("8", "7", "0"), 0, 0, 1, 1), 1);
+        CHECK.due("9: as much as is let off", owed(Told.by("7", "7", "0"), 0, 0, 1, 1), 0);
+        CHECK.due("9: one less than is let off", owed(Told.by("6", "7", "0"), 0, 0, 1, 1), 0);
+        CHECK.due("9: far less", owed(Told.by("0", "99", "0"), RED, 9, 1, 1), 0);
+        CHECK.due("9: extras are ahead of what is let off", owed(Told.by("1", "9", "8"), 0, 0, 1, 3), 2);
+        LightYearsAreOwed x = Told.by("5*number", "7", "0");
         owed(x, 0, 0, 1, 1);
         owed(x, 0, 2, 1, 1);
         CHECK.due("10: what is let off too much for one is none for another", x.told(0, 8), 3);
@@ -189,7 +183,7 @@ public final class EdgesOfOwedTest {
 
     /** The most that can be owed: twelve nights of twins of 99 and 99 and 12 more. */
     private static void theMostOfAll() {
-        LightYearsAreOwed x = by("9999", "-1", "9999");
+        LightYearsAreOwed x = Told.by("9999", "-1", "9999");
         int most = 12 * 198 + 111;
         for (int i = 0; i < 6; i++) {
             x.light(TWIN, 9, 999);
@@ -210,7 +204,7 @@ public final class EdgesOfOwedTest {
 
     /** "DUE for NIGHT what less 10 (10 .. 21; did one LOOK or not)", under clouds, too. */
     private static void dueLookedOrNot() {
-        LightYearsAreOwed x = by("1+night", "0", "0");
+        LightYearsAreOwed x = Told.by("1+night", "0", "0");
         x.light(0, 0, 1);
         x.light(COMET, 2, 1);
         x.look(0, 0, 1);
@@ -223,7 +217,7 @@ public final class EdgesOfOwedTest {
     }
 
     private static void allLessPaid() {
-        LightYearsAreOwed x = by("10", "0", "0");
+        LightYearsAreOwed x = Told.by("10", "0", "0");
         x.light(0, 0, 1);
         x.look(2, 0, 7);
         x.set(5, 2, 20);
@@ -250,7 +244,7 @@ public final class EdgesOfOwedTest {
 
     private static void whoOwesMost() {
         for (int one = 0; one < 5; one++) {
-            LightYearsAreOwed x = by("10", "0", "0");
+            LightYearsAreOwed x = Told.by("10", "0", "0");
             x.light(0, 0, 1);
             CHECK.due("10: none owes: the first", x.all(1), 0);
             for (int other = one; other < 5; other++) {
@@ -385,7 +379,7 @@ public final class EdgesOfOwedTest {
 
     /** Looker 1 owes 980 and 10 more for ten nights of a twin, and so much for another light. */
     private static LightYearsAreOwed owing(int more) {
-        LightYearsAreOwed x = by("years", "0", "0");
+        LightYearsAreOwed x = Told.by("years", "0", "0");
         x.light(TWIN, 0, 49);
         x.light(0, 0, more);
         x.look(1, 0, 1023);

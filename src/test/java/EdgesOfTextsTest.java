@@ -372,9 +372,8 @@ public final class EdgesOfTextsTest {
 
     /** What dues tell of a light of number 3 and 50 years that nobody looked at, for night 0. */
     private static int worth(String expression) {
-        LightYearsAreOwed x = new LightYearsAreOwed();
+        LightYearsAreOwed x = Told.by(expression, "0", "0");
         x.light(0, 3, 50);
-        x.force(Told.text(x, "dues " + expression + REST));
         return x.owes(0, 0, 10);
     }
 
@@ -424,10 +423,9 @@ public final class EdgesOfTextsTest {
 
     /** What one looks at in three nights comes to 3 dues and extras less offs. */
     private static int owed(String dues, String offs, String extras) {
-        LightYearsAreOwed x = new LightYearsAreOwed();
+        LightYearsAreOwed x = Told.by(dues, offs, extras);
         x.light(0, 3, 50);
         x.look(0, 0, 7);
-        x.force(Told.text(x, "dues " + dues + ";offs " + offs + ";extras " + extras + ";"));
         return x.owes(0, 0, 0);
     }
 
@@ -448,7 +446,8 @@ public final class EdgesOfTextsTest {
         LightYearsAreOwed x = new LightYearsAreOwed();
         x.force(Told.text(x, "dues 1+nights+20*cloudy;offs 0;extras 0;"));
         int lights = Told.text(x, "dues 1+lights;offs night;extras night;");
-        int night = Told.text(x, "dues night;offs night+50;extras night+60;");
+        int night = Told.text(x, "dues night;offs 50+2*night;extras 60;");
+        int extras = Told.text(x, "dues night;offs 50;extras 60-3*night;");
         x.light(0, 0, 1);
         CHECK.due("7: nights 0, cloudy 0", x.owes(0, 0, 10), 1);
         x.look(0, 0, 4095);
@@ -462,9 +461,13 @@ public final class EdgesOfTextsTest {
         for (int t = 0; t < 12; t++) {
             CHECK.due("7: night " + t, x.owes(0, 0, 10 + t), t);
         }
-        CHECK.due("7: of offs, extras night 0", x.owes(0, 0, 0), 66 + 60 - 50);
-        x.look(0, 0, 2048);
-        CHECK.due("7: also in night 11 alone", x.owes(0, 0, 0), 0);
+        CHECK.due("7: of offs night 0", x.owes(0, 0, 0), 66 + 60 - 50);
+        x.force(extras);
+        CHECK.due("7: of extras night 0", x.owes(0, 0, 0), 66 + 60 - 50);
+        x.look(0, 0, 2048 + 1024 + 512);
+        CHECK.due("7: also without looking in night 0", x.owes(0, 0, 0), 30 + 60 - 50);
+        x.force(night);
+        CHECK.due("7: of offs, too", x.owes(0, 0, 0), 30 + 60 - 50);
         x.force(lights);
         CHECK.due("7: lights 1", x.owes(0, 0, 10), 2);
         CHECK.due("7: lights 0, of another", x.owes(1, 0, 10), 1);

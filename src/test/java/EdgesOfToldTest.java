@@ -40,9 +40,7 @@ public final class EdgesOfToldTest {
     }
 
     private static LightYearsAreOwed by(String dues) {
-        LightYearsAreOwed x = new LightYearsAreOwed();
-        Told.dues(x, dues);
-        return x;
+        return Told.by(dues, "0", "0");
     }
 
     /** Six lights; looker 4 looked at each in two nights, the others at none; sheets 0, 3 tell it. */

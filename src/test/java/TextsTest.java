@@ -237,7 +237,7 @@ public final class TextsTest {
 
     private static void promise7Names() {
         LightYearsAreOwed x = new LightYearsAreOwed();
-        int night = Told.text(x, "dues night+1;offs night+5;extras night+40;");
+        int night = Told.text(x, "dues night+1;offs 2*night+5;extras night+40;");
         int nights = Told.text(x, "dues nights;offs nights;extras 10*nights;");
         int cloudy = Told.text(x, "dues 10+cloudy;offs cloudy;extras 0;");
         int lights = Told.text(x, "dues 10*lights;offs lights;extras number;");

@@ -17,6 +17,13 @@ final class Told {
         return x.text();
     }
 
+    /** A new object whose rule is a text of these three. */
+    static LightYearsAreOwed by(String dues, String offs, String extras) {
+        LightYearsAreOwed x = new LightYearsAreOwed();
+        x.force(text(x, "dues " + dues + ";offs " + offs + ";extras " + extras + ";"));
+        return x;
+    }
+
     /** Makes a text the rule by which dues are as told, nothing off, nothing extra. */
     static void dues(LightYearsAreOwed x, String expression) {
         x.force(text(x, "dues " + expression + ";offs 0;extras 0;"));
