@@ -24,6 +24,7 @@ public final class EdgesOfTextsTest {
         endsTooEarly();
         fiveOpen();
         whatCloses();
+        asManyAsTheTapeHolds();
         wraps();
         whatIsTrue();
         toldBounds();
@@ -375,6 +376,20 @@ public final class EdgesOfTextsTest {
         LightYearsAreOwed x = Told.by(expression, "0", "0");
         x.light(0, 3, 50);
         return x.owes(0, 0, 10);
+    }
+
+    /** A text has no bound of its own: as many signs in a row as 160 bytes hold. */
+    private static void asManyAsTheTapeHolds() {
+        CHECK.due("7: so many +", worth("1" + "+1".repeat(68)), 69);
+        CHECK.due("7: so many -", worth("99" + "-1".repeat(68)), 31);
+        CHECK.due("7: so many *", worth("1*".repeat(68) + "7"), 7);
+        CHECK.due("7: so many or, the last true", worth("0or".repeat(45) + "5"), 1);
+        CHECK.due("7: so many or, none true", worth("0or".repeat(45) + "0"), 0);
+        CHECK.due("7: so many and, all true", worth("2and".repeat(34) + "5"), 1);
+        CHECK.due("7: so many and, the last not", worth("2and".repeat(34) + "0"), 0);
+        CHECK.due("7: so many (", worth("(((((1)))))" + "+(((((1)))))".repeat(10)), 11);
+        text("dues 1;offs 1;extras " + "9*".repeat(68) + "9;");
+        fault("dues 1;offs 1;extras " + "9*".repeat(69) + "9", 160);
     }
 
     private static void isTrue(String expression) {
