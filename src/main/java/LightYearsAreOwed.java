@@ -492,8 +492,7 @@ public final class LightYearsAreOwed {
                 those++;
             }
         }
-        int common = commonMeasure(those, m);
-        return (part == 0 ? those : m) / common;
+        return part == 0 ? lowest(those, m) : lowest(m, those);
     }
 
     private static int cloudsBy(int seed) {
@@ -508,14 +507,14 @@ public final class LightYearsAreOwed {
         return clouds;
     }
 
-    /** The greatest divisor of both, 1 at least. */
-    private static int commonMeasure(int a, int b) {
-        for (int d = Math.max(a, b); d > 1; d--) {
-            if (a % d == 0 && b % d == 0) {
-                return d;
+    /** What becomes of a number, when it and another one are brought to lowest terms. */
+    private static int lowest(int v, int other) {
+        for (int d = Math.max(v, other); d > 1; d--) {
+            if (v % d == 0 && other % d == 0) {
+                return v / d;
             }
         }
-        return 1;
+        return v;
     }
 
     public int image() {

@@ -129,6 +129,7 @@ final class Model {
 
     record Text(Tree dues, Tree offs, Tree extras) { }
 
+    @SuppressWarnings("serial")
     static final class Fault extends RuntimeException {
         final int place;
 

@@ -4,6 +4,8 @@ import java.util.Random;
 public final class ModelTest {
     private static final int RUNS = 1500;
     private static final int CALLS = 512;
+    /** No step makes more calls, but for a text, which is fed as long as there are some left. */
+    private static final int CALLS_OF_A_STEP = 25;
     private static final String[] NAMES =
             {"years", "nights", "number", "night", "cloudy", "lights"};
     private static final String[] PIECES_OF_TEXT = {"years", "nights", "number", "night", "cloudy",
@@ -31,9 +33,13 @@ public final class ModelTest {
         x = new LightYearsAreOwed();
         m = new Model();
         calls = 0;
-        while (calls < CALLS && !check.failed()) {
+        while (calls < CALLS - CALLS_OF_A_STEP && !check.failed()) {
             step();
         }
+        while (calls < CALLS && !check.failed()) {
+            stepLook();
+        }
+        check.isTrue("an object is used for no more than its calls", calls <= CALLS);
     }
 
     private void due(String call, long got, long want) {
@@ -108,7 +114,7 @@ public final class ModelTest {
 
     private void feedText() {
         String text = textToFeed();
-        for (int i = 0; i < text.length() && calls < CALLS - 1; i++) {
+        for (int i = 0; i < text.length() && calls < CALLS - 2; i++) {
             int c = text.charAt(i);
             due("feed(" + c + ")", x.feed(c), m.feed(c));
         }
